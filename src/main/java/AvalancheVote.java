@@ -877,9 +877,6 @@ public final class AvalancheVote {
 
         private void readItem(State draft, boolean isFirst) {
             takeWord();
-            if (fault != NONE) {
-                return;
-            }
             if (wordIs("mountain") != isFirst) {
                 fault = start;
             } else if (wordIs("ledge")) {
@@ -920,14 +917,12 @@ public final class AvalancheVote {
             }
         }
 
+        /** Where no word begins it takes an empty one, which is none. */
         private void takeWord() {
             skipBlanks();
             start = at;
             while (at < length && isBetween('a', 'z')) {
                 at++;
-            }
-            if (at == start) {
-                fault = start;
             }
         }
 

@@ -6,7 +6,7 @@ import java.util.TreeMap;
 
 /** Runs of calls by seeds, on the class and on the model, which must answer alike (all promises). */
 public final class ModelTest {
-    private static final int RUNS = 500;
+    private static final int RUNS = 1500;
     private static final int CALLS = 512;
 
     private final Random random;
@@ -231,6 +231,8 @@ public final class ModelTest {
         if (dice < 2) {
             due("mountain()", real.mountain(), model.mountain());
             build();
+            search();
+            search();
         } else if (dice < 4 && used < CALLS - 200) {
             typeAll();
         } else if (dice < 6) {
@@ -250,6 +252,9 @@ public final class ModelTest {
 
     private int run() {
         build();
+        for (int i = 0; i < 8; i++) {
+            search();
+        }
         while (used < CALLS - 20 && wrong == 0) {
             step();
             due("digest()", real.digest(), model.digest());

@@ -230,6 +230,14 @@ public final class PromiseTest {
         AvalancheVote y = told("  mountain  ;ledge5 3;voter0 0 1  ; ");
         due("blanks may be left out or be many", y.count(0) * 10 + y.count(1), 11);
         due("mountain alone", told("mountain;").count(0), 0);
+        AvalancheVote z = full();
+        typeAll(z, "mountain;ledge 1 0;fault");
+        due("a fault", z.read(), -29);
+        due("count(0) stays", z.count(0), 8);
+        typeAll(z, "mountain;ledge 1 0;");
+        due("nothing is left of what was read before", z.read(), 2);
+        due("count(0)", z.count(0), 1);
+        due("count(1)", z.count(1), 0);
         due("eight ledges, six voters: count(0)", full().count(0), 8);
         due("eight ledges, six voters: count(1)", full().count(1), 6);
     }
@@ -421,6 +429,18 @@ public final class PromiseTest {
         due("undo() a ninth time", x.undo(), NO);
         due("count(4): what was seen stays", x.count(4), 1);
         status(x, 1, 4, 0);
+        AvalancheVote y = told("mountain;ledge 4 4;below 4 4 0;voter 0 1 1;");
+        due("vote(0)", y.vote(0), 3);
+        y.image(0);
+        y.vote(0);
+        y.undo();
+        due("a winner that there was ahead of it stays", y.winner(), 1);
+        due("so does the coalition", y.coalition(), 3);
+        y.mountain();
+        y.from(0);
+        due("undo() from an image", y.undo(), 0);
+        due("winner()", y.winner(), NONE);
+        due("count(3)", y.count(3), 8);
     }
 
     private static void promise11Of() {
@@ -537,6 +557,12 @@ public final class PromiseTest {
         due("orders(2, 0)", x.orders(2, 0), -10);
         due("orders(-1, 0)", x.orders(-1, 0), -10);
         due("nothing is changed", x.digest(), before);
+        AvalancheVote y = told("mountain;ledge 3 0;ledge 9 0;voter 0 1 1;voter 0 0 4;voter 0 1 2;");
+        y.february(0);
+        due("whatever was asked ahead of it", y.orders(0, -1), 6);
+        due("behind the winner the others rise", y.orders(0, 0) * 100 + y.orders(0, 1) * 10 + y.orders(0, 2), 12);
+        AvalancheVote w = told("mountain;ledge 3 0;voter 0 0 4;voter 0 0 1;voter 0 0 1;");
+        due("behind the first one too", w.orders(0, 0) * 100 + w.orders(0, 1) * 10 + w.orders(0, 2), 12);
         x.ledge(5, 0, -1);
         due("orders(2, -1)", x.orders(2, -1), 0);
         due("no such order", x.orders(2, 9), NONE);
@@ -589,6 +615,7 @@ public final class PromiseTest {
         x.ledge(5, 0, 1);
         long before = x.digest();
         due("it holds: nothing comes", x.buried(2, 5), 0);
+        due("a stone of 1", x.buried(2, 1), 0);
         due("buried(2, 10)", x.buried(2, 10), 2);
         due("buried(2, 11)", x.buried(2, 11), 3);
         due("into the valley", x.buried(0, 20), 0);
@@ -728,6 +755,9 @@ public final class PromiseTest {
         x.seen(5, 0);
         due("none is so", x.stick(), NONE);
         due("count(4)", x.count(4), 5);
+        x.forget();
+        x.seen(59, 1);
+        due("59, 60", x.stick(), 60);
         status(x, 0, 0, 0);
     }
 
@@ -819,8 +849,12 @@ public final class PromiseTest {
         // X is 1103527590, 16838: the voter 0; by 3 it is 1163074432, 17747: the voter 1.
         due("februaries(1, 1)", x.februaries(1, 1), 8);
         due("februaries(3, 1)", x.februaries(3, 1), 10);
+        due("60 votes are as many as may be", x.februaries(0, 60) > 0 ? 1 : 0, 1);
         due("nothing is changed", x.digest(), before);
         status(x, 4, 2, 0);
+        AvalancheVote y = told("mountain;ledge 60 0;voter 0 0 1;");
+        due("one voter, 60 votes", y.februaries(5, 60), 60);
+        due("one voter, 59 votes", y.februaries(5, 59), 59);
     }
 
     private static void promise28Part() {
