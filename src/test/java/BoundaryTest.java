@@ -396,7 +396,8 @@ public final class BoundaryTest {
         r.due(NONE, "orders", 0, Integer.MAX_VALUE);
         Run.sentence(16, "one VOTER, one order");
         r = new Run().then("ledge", 1, 0, VALLEY).then("voter", PLAIN, 0, 2).due(1, "orders", 0, NONE);
-        r.due(0, "orders", 0, 0).due(NOT_SO_MANY, "orders", 0, 1);
+        r.due(0, "orders", 0, 0).due(NOT_SO_MANY, "orders", 0, 1).due(NOT_SO_MANY, "orders", 0, 2);
+        r.due(NOT_SO_MANY, "orders", 0, 5).due(NOT_SO_MANY, "orders", 0, 6);
         Run.sentence(16, "six VOTERS, 720 orders, the first (rising)");
         r = new Run().then("ledge", 60, 0, VALLEY).then("ledge", 6, 1, VALLEY).times(6, "voter", PLAIN, 1, 1);
         r.due(720, "orders", 1, NONE).due(0, "orders", 0, NONE);
@@ -619,6 +620,11 @@ public final class BoundaryTest {
         chance(r, 0, 1, 531441, 1000000);
         chance(r, 0, 9, 1, 1000000);
         chance(r, 0, 10, 0, 1);
+        Run any = new Run().then("ledge", 1, 0, VALLEY).times(6, "voter", PLAIN, 0, 2);
+        chance(any, 0, 0, 1, 1);
+        chance(any, 0, 1, 999999, 1000000);
+        chance(any, 0, 9, 468559, 1000000);
+        chance(any, 0, 10, 0, 1);
         r.due(BAD, "sneeze", 0, -1).due(BAD, "sneeze", 0, 11).due(BAD, "sneeze", 1, 0).due(BAD, "sneeze", -1, 0);
         r.status(4, 0, 0).due(0, "part", 0).due(1, "part", 1).due(0, "count", 2).due(NONE, "winner");
         Run.sentence(26, "lowest terms, below above 0");
@@ -723,6 +729,16 @@ public final class BoundaryTest {
             r.due(9 - i, "undo").due(9 - i, "of", 0, 2);
         }
         r.due(NO, "undo").due(1, "from", 1).due(NO, "undo").due(1, "count", 2);
+        r = voted(9).then("image", 0).then("mountain").then("ledge", 50, 30, VALLEY).times(9, "night", 1);
+        r.due(1, "from", 0);
+        for (int i = 1; i <= 8; i++) {
+            r.due(9 - i, "undo").due(9 - i, "of", 0, 2).due(0, "of", 0, 1);
+        }
+        r.due(NO, "undo");
+        Run.sentence(30, "what was SEEN they keep");
+        r = new Run().then("seen", 10, 1).then("seen", 20, 0).then("image", 0).then("forget").then("seen", 30, 0);
+        r.then("seen", 25, 1).due(5, "hold", 0).due(1, "from", 0).due(10, "hold", 0).due(10, "hold", 1);
+        r.due(2, "count", 4);
         Run.sentence(30, "they stay behind mountain, read");
         r = voted(3).then("image", 0).then("mountain").due(1, "from", 0).due(3, "count", 2);
         r.told(1, "mountain;").due(0, "count", 2).due(1, "from", 0).due(2, "undo");
